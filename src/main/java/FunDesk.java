@@ -913,10 +913,10 @@ public final class FunDesk {
             }
         }
 
-        /** The type at one place where its name is used. */
+        /** The type at one place where its name is used; NONE if it is too long. */
         int instance(int type, int level) {
             listedCount = 0;
-            return copy(type, level, 0);
+            return tooLong(type) ? NONE : copy(type, level, 0);
         }
 
         private int copy(int type, int level, int depth) {
@@ -924,16 +924,16 @@ public final class FunDesk {
             if (depth > DEEPEST) {
                 return t;
             }
-            int first = resolve(firsts.get(t));
-            int second = resolve(seconds.get(t));
+            int first = firsts.get(t);
             switch (kinds.get(t)) {
                 case LIST:
                     int part = copy(first, level, depth + 1);
-                    return part == first ? t : list(part);
+                    return part == resolve(first) ? t : list(part);
                 case ARROW:
+                    int second = seconds.get(t);
                     int argument = copy(first, level, depth + 1);
                     int result = copy(second, level, depth + 1);
-                    return argument == first && result == second ? t : arrow(argument, result);
+                    return argument == resolve(first) && result == resolve(second) ? t : arrow(argument, result);
                 case VARIABLE:
                     return seconds.get(t) == GENERIC ? copyOf(t, level) : t;
                 default:
@@ -944,7 +944,7 @@ public final class FunDesk {
         private int copyOf(int variable, int level) {
             int place = placeOf(variable);
             if (copies.get(place) == NONE) {
-                copies.set(place, fresh(level));
+                copies.set(place, make(VARIABLE, NONE, level));
             }
             return copies.get(place);
         }
@@ -1062,6 +1062,9 @@ public final class FunDesk {
                 return NONE;
             }
             int type = tree.first(node) == NONE ? leaf(node) : inferWhole(node, depth);
+            if (type == NONE) {
+                ill = true;
+            }
             tree.setType(node, type);
             return type;
         }
@@ -1080,7 +1083,7 @@ public final class FunDesk {
                     return tree.number(node) == 'R'
                             ? types.arrow(Types.WHOLE, Types.REAL) : types.arrow(Types.REAL, Types.WHOLE);
                 case Tree.NAME:
-                    return nameAtPlace(tree.number(node));
+                    return types.instance(typeOfName(tree.number(node)), level);
                 case Tree.BINDER:
                     int type = types.fresh(level);
                     enter(tree.number(node), type);
@@ -1088,15 +1091,6 @@ public final class FunDesk {
                 default:
                     return types.fresh(level);
             }
-        }
-
-        private int nameAtPlace(int name) {
-            int type = typeOfName(name);
-            if (types.tooLong(type)) {
-                ill = true;
-                return NONE;
-            }
-            return types.instance(type, level);
         }
 
         private int inferWhole(int node, int depth) {
@@ -1533,10 +1527,7 @@ public final class FunDesk {
                     goInto(tree.second(at));
                     break;
                 case Tree.REC:
-                    Scope own = new Scope(tree.number(at), null, scope);
-                    own.bound = Value.ofFunction(tree.first(at), own);
-                    scope = own;
-                    goInto(tree.second(at));
+                    bindOwn();
                     break;
                 case Tree.IF:
                     goInto(take().number == 1 ? tree.second(at) : tree.third(at));
@@ -1545,6 +1536,14 @@ public final class FunDesk {
                     choose();
                     break;
             }
+        }
+
+        /** The function of a REC is bound at once and never waits; its scope holds itself. */
+        private void bindOwn() {
+            Scope own = new Scope(tree.number(at), null, scope);
+            own.bound = Value.ofFunction(tree.first(at), own);
+            scope = own;
+            goInto(tree.second(at));
         }
 
         private void operate() {
@@ -1588,27 +1587,19 @@ public final class FunDesk {
         }
 
         private void operateOnReals(int sign, double left, double right) {
-            switch (sign) {
-                case '+':
-                    settleReal(left + right);
-                    break;
-                case '-':
-                    settleReal(left - right);
-                    break;
-                case '*':
-                    settleReal(left * right);
-                    break;
-                default:
-                    if (right == 0.0) {
-                        fail(BY_ZERO);
-                    } else {
-                        settleReal(left / right);
-                    }
-                    break;
+            double known;
+            if (sign == '+') {
+                known = left + right;
+            } else if (sign == '-') {
+                known = left - right;
+            } else if (sign == '*') {
+                known = left * right;
+            } else if (right == 0.0) {
+                fail(BY_ZERO);
+                return;
+            } else {
+                known = left / right;
             }
-        }
-
-        private void settleReal(double known) {
             if (known > LARGEST || known < -LARGEST) {
                 fail(TOO_LARGE);
             } else {
