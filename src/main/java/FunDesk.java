@@ -1247,8 +1247,8 @@ public final class FunDesk {
     /** A name with its value, and what is bound around it. */
     private static final class Scope {
         final int name;
+        final Value bound;
         final Scope outer;
-        Value bound;
 
         Scope(int name, Value bound, Scope outer) {
             this.name = name;
@@ -1422,9 +1422,6 @@ public final class FunDesk {
                 case Tree.FUNCTION:
                     settle(Value.ofFunction(at, scope));
                     break;
-                case Tree.REC:
-                    move = STEP;
-                    break;
                 default:
                     goInto(tree.first(at));
                     break;
@@ -1463,14 +1460,12 @@ public final class FunDesk {
                     }
                     break;
                 case Tree.LET:
+                case Tree.REC:
                     if (part == tree.first(at)) {
                         move = STEP;
                     } else {
                         unbind(1);
                     }
-                    break;
-                case Tree.REC:
-                    unbind(1);
                     break;
                 case Tree.BRANCH:
                     unbind(tree.number(at));
@@ -1538,11 +1533,11 @@ public final class FunDesk {
             }
         }
 
-        /** The function of a REC is bound at once and never waits; its scope holds itself. */
+        /** The function of a REC was made in the scope around it; from its step on it knows itself. */
         private void bindOwn() {
-            Scope own = new Scope(tree.number(at), null, scope);
-            own.bound = Value.ofFunction(tree.first(at), own);
-            scope = own;
+            Value function = take();
+            scope = new Scope(tree.number(at), function, scope);
+            function.scope = scope;
             goInto(tree.second(at));
         }
 

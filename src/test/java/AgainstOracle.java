@@ -774,8 +774,10 @@ public final class AgainstOracle {
                     return work(n.part(1), add(around, n.text, v));
                 }
                 case "rec": {
-                    step();
                     Fun f = new Fun(n.part(0), null);
+                    known(f);
+                    step();
+                    waiting--;
                     f.around = add(around, n.text, f);
                     return work(n.part(1), f.around);
                 }
@@ -1063,6 +1065,7 @@ public final class AgainstOracle {
 
         /** Lines that come to the edges; they are also changed a little. */
         static final String[] KNOWN = {"@f=\\x.1+f x;f 0", "@f=\\x.f x;f 0", "@f=\\x.1+(1+f(2,(@g=\\y.y;x)));f[]",
+            "@f=\\x.x,x,(@g=\\y.y;fx);f1", "1,(@f=\\x.x,x,(@g=\\y.y;fx);f1)", "@f=\\x.x,(@g=\\y.y;@h=\\y.g;fx);f1",
             "@f=\\x.f(x*.x);f 9.5", "@f=\\x.x*.(1.0/.f x);f 0.0", "@f=\\x.f(x/.9.9);f 1.5", "@f=\\x.1.5/.x+.f(x/.9.9);f 1.5",
             "@f=\\n.?n<1:1|n*f(n-1);f 99", "@f=\\n.?n<1:[]|n,f(n-1);f 60", "@f=\\n.?n<1:[]|n,f(n-1);f 99",
             "@m=\\f.\\l.#l{[]:[]|h,t:f h,m f t};m(\\x.x*x)(1,2,3,[])", "@f=\\x.#x{1:f 2|2:f 3|3:x};f 1",

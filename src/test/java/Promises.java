@@ -501,8 +501,7 @@ public final class Promises {
         worth("@f=\\x.1+f x;f 0", "fails 5", 200);
         worth("@f=\\x.?f x:T|F;f 0", "fails 4", 500);
         worth("@f=\\n.?n<1:[]|n,f(n-1);f 60", written(60), 1 + 61 * 3 + 60 * 2);
-        // REC's function does not wait: the step of @g is made at 200 that wait
-        worth("@f=\\x.1+(1+f(2,(@g=\\y.y;x)));f[]", "fails 5", 2 + 3 * 98 + 1);
+        atRec();
         FunDesk desk = new FunDesk();
         for (int round = 0; round < 2; round++) {
             typed(desk, "@f=\\x.f x;f 0");
@@ -531,6 +530,38 @@ public final class Promises {
         load(desk);
         due("run(5) of what needs no step", desk.run(5), 0);
         due("its value", desk.value(1), 7);
+    }
+
+    /** What a REC binds is known ahead of its step: it waits, or is one too many. */
+    private static void atRec() {
+        worth("@f=\\x.1+(1+f(2,(@g=\\y.y;x)));f[]", "fails 5", 2 + 3 * 98);
+        worth("@f=\\x.x,x,(@g=\\y.y;fx);f1", "fails 5", 2 + 2 * 99);
+        // with one more ahead 199 wait, the function is the last that may, and its step takes it
+        worth("1,(@f=\\x.x,x,(@g=\\y.y;fx);f1)", "fails 5", 2 + 2 * 98 + 1);
+        worth("@f=\\n.?n<1:n|n*(@g=\\y.f(y-1);g n);f 5", "0", 2 + 5 * 7 + 2);
+        worth("!x=1;@f=\\y.x+y;!x=5;f x", "6", 5);
+        FunDesk desk = new FunDesk();
+        typed(desk, "@f=\\x.x;f 1");
+        load(desk);
+        due("run(0) ahead of a REC", desk.run(0), 0);
+        due("state(0) ahead of a REC", desk.state(0), 1);
+        due("run(1) of a REC", desk.run(1), 1);
+        due("run(5) behind a REC", desk.run(5), 1);
+        due("the value", desk.value(1), 1);
+        desk = new FunDesk();
+        for (int steps : new int[] {500, 300, 199}) {
+            typed(desk, steps == 199 ? "@f=\\x.x,x,(@g=\\y.y;fx);f1" : "@f=\\x.f x;f 0");
+            load(desk);
+            for (int left = steps; left > 0; left -= 100) {
+                desk.run(Math.min(left, 100));
+            }
+        }
+        due("state(0) after 199", desk.state(0), 1);
+        due("the last of 1000", desk.run(1), 1);
+        due("state(0) at both limits", desk.state(0), 3);
+        due("what needs no step comes first", desk.state(1), 5);
+        due("state(2) at both limits", desk.state(2), 200);
+        due("state(3) at both limits", desk.state(3), 1000);
     }
 
     private static String written(int from) {
